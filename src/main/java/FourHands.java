@@ -159,7 +159,7 @@ public final class FourHands {
         for (int a = 0; a < now.notes; a++) {
             for (int b = a + 1; b < now.notes; b++) {
                 int is = now.sortOf(a, b);
-                if (is == NONE || sort != NONE && is != sort) {
+                if (is == NONE || (sort != NONE && is != sort)) {
                     continue;
                 }
                 if (found == i) {
@@ -653,8 +653,9 @@ public final class FourHands {
             if (apart < Math.max(keepsOff(handI), keepsOff(handJ))) {
                 return ELBOW;
             }
-            boolean firstIsHers = handI < handJ;
-            return firstIsHers == keys[i] < keys[j] ? CROSSED : NONE;
+            int hers = handI < handJ ? keys[i] : keys[j];
+            int his = handI < handJ ? keys[j] : keys[i];
+            return hers < his ? CROSSED : NONE;
         }
 
         int clashCount() {
@@ -734,13 +735,13 @@ public final class FourHands {
                     }
                     continue;
                 }
-                if (hands[n] != hand || by != 0 && by != lates[n]) {
+                if (hands[n] != hand || (by != 0 && by != lates[n])) {
                     return false;
                 }
                 by = lates[n];
                 firstLate = Math.min(firstLate, moments[n]);
             }
-            return lastInTime < firstLate || by == 0;
+            return by == 0 || lastInTime < firstLate;
         }
 
         long digestFrom(long start) {
@@ -996,14 +997,20 @@ public final class FourHands {
 
         /** The two changes were each counted against the other NOTE as it was: this sets it right. */
         private int pairMore(Piece piece, int a, int handA, int b, int handB) {
-            int wasA = piece.hands[a];
-            int wasB = piece.hands[b];
-            return clashesIf(piece, a, handA, b, handB) + clashesIf(piece, a, wasA, b, wasB)
-                    - clashesIf(piece, a, handA, b, wasB) - clashesIf(piece, a, wasA, b, handB);
-        }
-
-        private int clashesIf(Piece piece, int a, int handA, int b, int handB) {
-            return piece.sortIf(a, handA, b, handB) == NONE ? 0 : 1;
+            int more = 0;
+            if (piece.sortIf(a, handA, b, handB) != NONE) {
+                more++;
+            }
+            if (piece.sortIf(a, piece.hands[a], b, piece.hands[b]) != NONE) {
+                more++;
+            }
+            if (piece.sortIf(a, handA, b, piece.hands[b]) != NONE) {
+                more--;
+            }
+            if (piece.sortIf(a, piece.hands[a], b, handB) != NONE) {
+                more--;
+            }
+            return more;
         }
     }
 

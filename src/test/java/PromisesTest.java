@@ -277,6 +277,12 @@ public final class PromisesTest {
         fault("piec 1;", 0);
         fault("  pieces 1;", 2);
         fault("pie", 0);
+        fault("piecez 1;", 0);
+        fault("apiece 1;", 0);
+        fault("piece{1;", 5);
+        fault("piece`1;", 5);
+        fault("piece 1/", 7);
+        fault("piece 1:", 7);
         fault("Piece 1;", 0);
         fault("piece 10;", 6);
         fault("piece 001;", 6);
@@ -354,6 +360,16 @@ public final class PromisesTest {
         x.give(1, -1);
         due("undo()", x.undo(), 1);
         due("of(1, 5)", x.of(1, 5), 0);
+        // unlike NOTES and HANDS: each goes back to just where it was
+        FourHands y = new FourHands();
+        for (int i = 0; i < 12; i++) y.note(4 * i, 5 * i, 1, 0, 0, (i + 1) % 4);
+        for (int i = 0; i < 12; i++) y.give(i, (i + 2) % 4);
+        for (int i = 11; i >= 2; i--) {
+            due("count(4)", y.count(4), i - 1);
+            y.undo();
+            for (int k = 0; k < 12; k++) due("of(" + k + ", 5)", y.of(k, 5), (k < i ? k + 2 : k + 1) % 4);
+        }
+        due("undo()", y.undo(), -3);
         // a HAND and the PEDAL told meanwhile stay as told
         x.hand(0, 0, 15, 4);
         due("undo()", x.undo(), 0);
