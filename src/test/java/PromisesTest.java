@@ -4,19 +4,7 @@ import java.util.Set;
 import java.util.TreeSet;
 
 /** For each promise of the document: ordinary inputs, the edges that it names, wrong inputs; answers worked out by hand. */
-public final class PromisesTest {
-    private static int wrong;
-    private static int promise;
-    private static final int MIN = Integer.MIN_VALUE;
-    private static final int MAX = Integer.MAX_VALUE;
-
-    private static void due(String call, long got, long want) {
-        if (got != want) {
-            wrong++;
-            System.out.println("promise " + promise + ": " + call + " answered " + got + ", due is " + want);
-        }
-    }
-
+public final class PromisesTest extends Checks {
     public static void main(String[] args) throws Exception {
         face();
         newObject();
@@ -53,25 +41,7 @@ public final class PromisesTest {
         status();
         count();
         digest();
-        System.out.println(wrong == 0 ? "PromisesTest: all answers are as due" : "PromisesTest: " + wrong + " answers are not as due");
-        if (wrong != 0) System.exit(1);
-    }
-
-    private static void typed(FourHands x, String text) {
-        x.clear();
-        for (int i = 0; i < text.length(); i++) x.type(text.charAt(i));
-    }
-
-    private static FourHands of(int[]... notes) {
-        FourHands x = new FourHands();
-        for (int[] n : notes) {
-            if (x.note(n[0], n[1], n[2], n[3], n[4], n[5]) < 0) throw new IllegalStateException("no such note");
-        }
-        return x;
-    }
-
-    private static int[] n(int key, int moment, int length, int hand) {
-        return new int[] {key, moment, length, 0, 1, hand};
+        end("PromisesTest");
     }
 
     private static void face() {
