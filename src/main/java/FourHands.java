@@ -493,7 +493,7 @@ public final class FourHands {
         int undos;
         final int[] undoNotes = new int[UNDOS];
         final int[] undoHands = new int[UNDOS];
-        /** For each NOTE the bits of those it clashes with; only as fresh as findPartners. */
+        /** For each NOTE the bits of later ones it clashes with; only as fresh as findPartners. */
         final int[] partners = new int[NOTES];
 
         Piece() {
@@ -676,7 +676,6 @@ public final class FourHands {
                 for (int j = i + 1; j < notes; j++) {
                     if (sortOf(i, j) != NONE) {
                         partners[i] |= 1 << j;
-                        partners[j] |= 1 << i;
                     }
                 }
             }

@@ -317,6 +317,15 @@ public final class EdgesTest extends Checks {
         read(" piece 1 ; hand 0  0 0 1 ; ", 2);
         for (String w : new String[] {"p", "piec", "pieces", "ppiece", "hand", "note", "x", "1", ";", "Piece", "PIECE"}) fault(w + " 1;", 0);
         for (String w : new String[] {"h", "han", "hands", "n", "not", "notes", "piece", "x", "1", ";", "Note", "handnote"}) fault("piece 1;" + w + " 1;", 8);
+        // one letter is another, in each place
+        for (String w : new String[] {"piece", "hand", "note"}) {
+            for (int i = 0; i < w.length(); i++) {
+                for (char c : new char[] {(char) (w.charAt(i) + 1), (char) (w.charAt(i) - 1), 'z'}) {
+                    String ahead = w.equals("piece") ? "" : "piece 1;";
+                    fault(ahead + w.substring(0, i) + c + w.substring(i + 1) + " 1;", ahead.length());
+                }
+            }
+        }
         // piece again, wherever it comes
         fault("piece 1;piece 1;", 8);
         fault("piece 1;hand 0 0 0 1;piece 1;", 21);
@@ -660,6 +669,13 @@ public final class EdgesTest extends Checks {
         givenIs(x, 0, 3);
         givenIs(x, 1, 1, 3);
         givenIs(x, 2, 0, 3, 20);
+        // the same with one ahead that is left out: NOTES keep their numbers
+        givenIs(of(n(0, 0, 1, -1), n(0, 0, 1, 2), n(20, 0, 1, 2), n(40, 0, 1, 2)), 2, 0, 13, 30);
+        // two one behind the other are given; less may be asked for later
+        x = of(n(0, 0, 1, -1), n(0, 0, 1, 0), n(0, 30, 1, 0), n(20, 0, 1, 0), n(20, 30, 1, 0));
+        givenIs(x, 2, 0, 11, 21);
+        givenIs(x, 1, 1, 11);
+        givenIs(x, 0, 2);
         // left out is no HAND to give to, and who is left out does not come back
         x = of(n(5, 5, 1, 0), n(5, 5, 1, 1), n(40, 5, 1, -1));
         givenIs(x, 2, 1);
@@ -677,6 +693,13 @@ public final class EdgesTest extends Checks {
         due("out()", x.out(), 0);
         x.note(6, 8, 8, 0, 0, 3);
         due("out()", x.clashes(-1, -1) > 1 ? x.out() : -1, 2048);
+        // it is asked again, when fewer clash
+        x = alike(3, 0);
+        due("out()", x.out(), 3);
+        x.give(0, -1);
+        due("out()", x.out(), 2);
+        x.give(1, -1);
+        due("out()", x.out(), 0);
         // two pairs: of like ones the least
         due("out()", of(n(1, 1, 1, 0), n(9, 9, 1, 0), n(9, 9, 1, 1), n(1, 1, 1, 1)).out(), 3);
         // a row of three: the middle one
@@ -711,6 +734,22 @@ public final class EdgesTest extends Checks {
         fingersAre(of(n(14, 9, 1, 2), n(12, 9, 1, 2), n(10, 9, 1, 2), n(11, 3, 1, 2)), 2, 0, 1, 0, 2, 4);
         // the same KEY by another finger costs what the fingers are apart; unlike ones by one finger 3 more
         fingersAre(of(n(10, 0, 1, 1), n(10, 1, 1, 1), n(14, 2, 1, 1), n(14, 3, 1, 1), n(10, 4, 1, 1)), 1, 0, 0, 0, 4, 4, 0);
+        // one finger for both would cost 1 and 3, and 0 for the next
+        fingersAre(of(n(10, 0, 1, 0), n(11, 1, 1, 0), n(15, 2, 1, 0)), 0, 1, 0, 1, 4);
+        // HANDS with more NOTES and with fewer, one asked behind the other
+        int[] down = {47, 40, 33, 26, 19, 12, 5, 0};
+        x = new FourHands();
+        for (int i = 0; i < 8; i++) x.note(down[i], 2 * i, 1, 0, 0, 0);
+        x.note(7, 0, 1, 0, 0, 1);
+        for (int i = 0; i < 2; i++) x.note(9, i, 1, 0, 0, 2);
+        for (int i = 0; i < 2; i++) {
+            fingersAre(x, 0, 43, 4, 0, 1, 0, 1, 0, 1, 0);
+            fingersAre(x, 1, 0, 0);
+            fingersAre(x, 0, 43, 4, 0, 1, 0, 1, 0, 1, 0);
+            fingersAre(x, 2, 0, 0, 0);
+            fingersAre(x, 0, 43, 4, 0, 1, 0, 1, 0, 1, 0);
+            fingersAre(x, 3, 0);
+        }
         // 0, 1, .. 7 upwards by 8 NOTES: once from finger 2 back to 0
         x = new FourHands();
         for (int i = 0; i < 8; i++) x.note(i, i, 1, 0, 0, 0);
@@ -818,6 +857,11 @@ public final class EdgesTest extends Checks {
         // joined and blurred alike: none
         bestIs(of(n(20, 5, 1, 0), n(22, 6, 1, 0)), 0, 0);
         bestIs(of(n(20, 5, 1, 0), n(23, 6, 1, 0)), 1, 507);
+        // it is asked again, when there is none any more
+        FourHands x = of(n(20, 5, 1, 0), n(23, 6, 1, 0));
+        bestIs(x, 1, 507);
+        x.give(1, -1);
+        bestIs(x, 0, 0);
         // two joined, one blurred: 2 less 1 is as 1 by less
         bestIs(of(n(20, 5, 1, 0), n(30, 6, 1, 0), n(31, 7, 1, 0)), 1, 507);
     }
@@ -1102,6 +1146,15 @@ public final class EdgesTest extends Checks {
         due("digest()", x.digest(), full);
         due("status(1)", x.status(1), 2);
         due("status(2)", x.status(2), 1);
+        // what may be undone is the IMAGE's own: another NOTE, another HAND were given since
+        x = of(n(5, 5, 1, 0), n(9, 9, 1, 1), n(20, 20, 1, 2));
+        x.give(0, 3);
+        x.image(0);
+        x.undo();
+        x.give(2, -1);
+        due("from(0)", x.from(0), 1);
+        due("undo()", x.undo(), 0);
+        for (int i = 0; i < 3; i++) due("of(" + i + ", 5)", x.of(i, 5), i);
     }
 
     private static void statusEdges() {
