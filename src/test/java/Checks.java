@@ -4,11 +4,24 @@ abstract class Checks {
     protected static final int MAX = Integer.MAX_VALUE;
     protected static int wrong;
     protected static int promise;
+    private static final int PROMISES = 33;
+    private static final boolean[] asked = new boolean[PROMISES + 1];
 
     protected static void due(String call, long got, long want) {
+        asked[promise] = true;
         if (got != want) {
             wrong++;
             System.out.println("promise " + promise + ": " + call + " answered " + got + ", due is " + want);
+        }
+    }
+
+    /** A promise that nobody asked for would go by unseen. */
+    protected static void everyPromise() {
+        for (int p = 1; p <= PROMISES; p++) {
+            if (!asked[p]) {
+                wrong++;
+                System.out.println("promise " + p + " has no test");
+            }
         }
     }
 

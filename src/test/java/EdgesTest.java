@@ -1095,6 +1095,14 @@ public final class EdgesTest extends Checks {
         due("evening(7, 100) of two in 63", of(n(10, 63, 1, 0), n(10, 63, 1, 1)).evening(7, 100), 1);
         due("evening(7, 100) of the last 8", of(n(10, 56, 8, 0), n(10, 63, 1, 1)).evening(7, 100), 1);
         due("evening(7, 100) of 61 and 62", of(n(10, 61, 1, 0), n(10, 62, 1, 1)).evening(7, 100), 0);
+        // clashes of other sorts come and go: SEED 0 makes the first late from 1 on, the second from 69 on
+        int[][] pairs = {{10, 5, 1, 0, 14, 7, 1, 0}, {10, 5, 1, 0, 30, 6, 1, 0}, {21, 5, 1, 0, 20, 6, 1, 2}, {20, 5, 1, 1, 40, 6, 1, 3}};
+        int[][] counts = {{0, 1, 0}, {1, 1, 1}, {0, 1, 0}, {0, 1, 0}};
+        for (int k = 0; k < pairs.length; k++) {
+            int[] p = pairs[k];
+            x = of(n(p[0], p[1], p[2], p[3]), n(p[4], p[5], p[6], p[7]));
+            for (int w = 0; w <= 100; w++) due("evening(0, " + w + ") of pair " + k, x.evening(0, w), counts[k][w == 0 ? 0 : w <= 68 ? 1 : 2]);
+        }
         // the 12th takes its turn: SEED 0: 0, 68, 88, 17, 98, 27, 45, 41, 22, 10, 61, 52
         x = alike(11, -1);
         x.give(0, 0);

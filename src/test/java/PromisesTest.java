@@ -1,12 +1,6 @@
-import java.lang.reflect.Method;
-import java.lang.reflect.Modifier;
-import java.util.Set;
-import java.util.TreeSet;
-
 /** For each promise of the document: ordinary inputs, the edges that it names, wrong inputs; answers worked out by hand. */
 public final class PromisesTest extends Checks {
-    public static void main(String[] args) throws Exception {
-        face();
+    public static void main(String[] args) {
         newObject();
         piece();
         hand();
@@ -41,23 +35,8 @@ public final class PromisesTest extends Checks {
         status();
         count();
         digest();
+        everyPromise();
         end("PromisesTest");
-    }
-
-    private static void face() {
-        promise = 1;
-        due("NONE", FourHands.NONE, -1);
-        due("BAD", FourHands.BAD, -2);
-        due("NO", FourHands.NO, -3);
-        due("FULL", FourHands.FULL, -4);
-        Set<String> names = new TreeSet<>();
-        for (Method m : FourHands.class.getDeclaredMethods()) {
-            if (!Modifier.isPrivate(m.getModifiers())) names.add(m.getName());
-        }
-        due("public methods", names.size(), 33 - 1);
-        due("public fields", FourHands.class.getFields().length, 4);
-        due("constructors", FourHands.class.getConstructors().length, 1);
-        due("final", Modifier.isFinal(FourHands.class.getModifiers()) ? 1 : 0, 1);
     }
 
     private static void newObject() {
